@@ -1,0 +1,67 @@
+import java.nio.charset.StandardCharsets;
+
+/** What the tests share: counting wrong answers, and telling texts byte by byte. */
+final class Check {
+    private final String name;
+    private int asked;
+    private int wrong;
+
+    Check(String name) {
+        this.name = name;
+    }
+
+    void due(String what, long got, long want) {
+        asked++;
+        if (got != want) {
+            wrong++;
+            System.out.println(name + ": " + what + " answered " + got + ", due is " + want);
+        }
+    }
+
+    void due(String what, boolean got, boolean want) {
+        due(what, got ? 1 : 0, want ? 1 : 0);
+    }
+
+    /** Ends the test: exit code 1 if an answer was wrong. */
+    void close() {
+        System.out.println(name + ": " + asked + " answers, " + wrong + " wrong");
+        if (wrong != 0 || asked == 0) {
+            System.exit(1);
+        }
+    }
+
+    static void fill(OxenHome home, String text) {
+        fill(home, text.getBytes(StandardCharsets.ISO_8859_1));
+    }
+
+    /** Puts just these bytes on the tape. */
+    static void fill(OxenHome home, byte[] text) {
+        home.end(0);
+        for (int from = 0; from < text.length; from += 20) {
+            home.feed(four(text, from), four(text, from + 4), four(text, from + 8),
+                four(text, from + 12), four(text, from + 16));
+        }
+        home.end(text.length);
+    }
+
+    private static int four(byte[] text, int from) {
+        int all = 0;
+        for (int i = from; i < from + 4; i++) {
+            all = all << 8 | (i < text.length ? text[i] & 255 : 0);
+        }
+        return all;
+    }
+
+    /** Tells a TEXT: its number. */
+    static int tell(OxenHome home, String text) {
+        fill(home, text);
+        return home.text();
+    }
+
+    /** Tells a TEXT that rules from now on. */
+    static void rule(OxenHome home, String text) {
+        if (!home.by(tell(home, text))) {
+            throw new IllegalStateException("not a text: " + text);
+        }
+    }
+}
