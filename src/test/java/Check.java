@@ -60,7 +60,8 @@ final class Check {
 
     /** Tells a TEXT that rules from now on. */
     static void rule(OxenHome home, String text) {
-        if (!home.by(tell(home, text))) {
+        int number = tell(home, text);
+        if (number < 0 || !home.by(number)) {
             throw new IllegalStateException("not a text: " + text);
         }
     }
