@@ -221,8 +221,10 @@ public final class OxenHome {
             int field = herd.get(ox, AT) - IN_FIELD;
             if (field >= 0) {
                 laws.ask(ox, farm, pitch, field, herd.get(ox, MATE) != NONE, herd.hour());
-                going |= laws.heeded() ? 1 << ox : 0;
-                toSecond |= laws.toSecond() ? 1 << ox : 0;
+                if (laws.heeded()) {
+                    going |= 1 << ox;
+                    toSecond |= laws.toSecond() ? 1 << ox : 0;
+                }
             }
         }
         for (int ox = 0; ox < herd.oxen(); ox++) {
@@ -707,15 +709,7 @@ public final class OxenHome {
         }
 
         boolean has(int text, int clause) {
-            return text != NONE && firstOf(text, clause) < lastOf(text, clause);
-        }
-
-        int firstOf(int text, int clause) {
-            return first.get(text * CLAUSES + clause);
-        }
-
-        int lastOf(int text, int clause) {
-            return last.get(text * CLAUSES + clause);
+            return first.get(text * CLAUSES + clause) < last.get(text * CLAUSES + clause);
         }
     }
 
@@ -726,17 +720,17 @@ public final class OxenHome {
             "hour pitch farm ear own far yoked ox strength weaker soil heeds second slip calls work or and not ";
         private static final String SIGNS = "<>=#+-*/();";
 
-        private static final int HOUR = 0;
-        private static final int PITCH = 1;
-        private static final int FARM = 2;
-        private static final int KEEN = 3;
-        private static final int OWN = 4;
-        private static final int FAR = 5;
-        private static final int YOKED = 6;
-        private static final int OX = 7;
-        private static final int MIGHT = 8;
-        private static final int WEAKER = 9;
-        private static final int SOIL = 10;
+        private static final int NAME_HOUR = 0;
+        private static final int NAME_PITCH = 1;
+        private static final int NAME_FARM = 2;
+        private static final int NAME_EAR = 3;
+        private static final int NAME_OWN = 4;
+        private static final int NAME_FAR = 5;
+        private static final int NAME_YOKED = 6;
+        private static final int NAME_OX = 7;
+        private static final int NAME_STRENGTH = 8;
+        private static final int NAME_WEAKER = 9;
+        private static final int NAME_SOIL = 10;
         private static final int NAME_COUNT = 11;
         private static final int FIRST_CLAUSE = 11;
         private static final int OR = 16;
@@ -766,6 +760,13 @@ public final class OxenHome {
         private static final int TOO_DEEP = 3;
         private static final int CLAUSE_AGAIN = 4;
         private static final int FOREIGN_NAME = 5;
+
+        // What binds looser has the lower rank.
+        private static final int EITHER = 0;
+        private static final int BOTH = 1;
+        private static final int ASK = 2;
+        private static final int SUM = 3;
+        private static final int ONE = 5;
 
         private static final int MOST_NUMBER = 9999;
         private static final int MOST_OPEN = 8;
@@ -830,11 +831,8 @@ public final class OxenHome {
             }
             int from = codeCount;
             step();
-            if (clause == Texts.HEEDS || clause == Texts.TO_SECOND) {
-                readEither(0);
-            } else {
-                readSum(0);
-            }
+            boolean asks = clause == Texts.HEEDS || clause == Texts.TO_SECOND;
+            readRank(asks ? EITHER : SUM, 0);
             if (fault == 0 && token != SEMICOLON) {
                 fail(MISPLACED);
             }
@@ -844,72 +842,42 @@ public final class OxenHome {
             }
         }
 
-        private void readEither(int open) {
-            readBoth(open);
-            for (int i = 0; i < length && fault == 0 && token == OR; i++) {
-                step();
-                readBoth(open);
-                emit(Texts.TOKENS + OR);
+        /** Reads an EITHER, BOTH, ASK, SUM, PRODUCT or ONE; open: how many are open around it. */
+        private void readRank(int rank, int open) {
+            if (rank == ASK) {
+                readAsk(open);
+            } else if (rank >= ONE) {
+                readOne(open);
+            } else {
+                readJoined(rank, open);
             }
         }
 
-        private void readBoth(int open) {
-            readAsk(open);
-            for (int i = 0; i < length && fault == 0 && token == AND; i++) {
+        private void readJoined(int rank, int open) {
+            readRank(rank + 1, open);
+            for (int i = 0; i < length && fault == 0 && joins(rank, token); i++) {
+                int sign = token;
                 step();
-                readAsk(open);
-                emit(Texts.TOKENS + AND);
+                readRank(rank + 1, open);
+                emit(Texts.TOKENS + sign);
             }
         }
 
         private void readAsk(int open) {
             if (token == NOT) {
-                readDenied(open);
-            } else {
-                readComparison(open);
-            }
-        }
-
-        private void readDenied(int open) {
-            if (stepInside(open)) {
-                readAsk(open + 1);
+                readOpened(ASK, open);
                 emit(Texts.TOKENS + NOT);
-            }
-        }
-
-        private void readComparison(int open) {
-            readSum(open);
-            if (fault != 0) {
                 return;
             }
+            readRank(SUM, open);
             int sign = token;
-            if (!isComparison(sign)) {
+            if (fault != 0 || !isComparison(sign)) {
                 fail(MISPLACED);
                 return;
             }
             step();
-            readSum(open);
+            readRank(SUM, open);
             emit(Texts.TOKENS + sign);
-        }
-
-        private void readSum(int open) {
-            readProduct(open);
-            for (int i = 0; i < length && fault == 0 && (token == PLUS || token == MINUS); i++) {
-                int sign = token;
-                step();
-                readProduct(open);
-                emit(Texts.TOKENS + sign);
-            }
-        }
-
-        private void readProduct(int open) {
-            readOne(open);
-            for (int i = 0; i < length && fault == 0 && (token == TIMES || token == OVER); i++) {
-                int sign = token;
-                step();
-                readOne(open);
-                emit(Texts.TOKENS + sign);
-            }
         }
 
         private void readOne(int open) {
@@ -917,31 +885,32 @@ public final class OxenHome {
                 readNumber();
             } else if (token >= 0 && token < NAME_COUNT) {
                 readName();
-            } else if (token == OPEN) {
-                readBracket(open);
             } else if (token == MINUS) {
-                readNegative(open);
+                readOpened(ONE, open);
+                emit(Texts.TOKENS + NEGATE);
+            } else if (token == OPEN) {
+                readOpened(SUM, open);
+                close();
             } else {
                 fail(MISPLACED);
             }
         }
 
-        private void readBracket(int open) {
-            if (!stepInside(open)) {
+        /** Reads what stands behind a token that opens, unless too many are open around that. */
+        private void readOpened(int rank, int open) {
+            if (open >= MOST_OPEN) {
+                fail(TOO_DEEP);
                 return;
             }
-            readSum(open + 1);
+            step();
+            readRank(rank, open + 1);
+        }
+
+        private void close() {
             if (token == CLOSE) {
                 step();
             } else {
                 fail(MISPLACED);
-            }
-        }
-
-        private void readNegative(int open) {
-            if (stepInside(open)) {
-                readOne(open + 1);
-                emit(Texts.TOKENS + NEGATE);
             }
         }
 
@@ -963,14 +932,17 @@ public final class OxenHome {
             step();
         }
 
-        /** Steps behind a token that opens, unless too many are open around it. */
-        private boolean stepInside(int open) {
-            if (open >= MOST_OPEN) {
-                fail(TOO_DEEP);
-                return false;
+        private static boolean joins(int rank, int token) {
+            switch (rank) {
+                case EITHER:
+                    return token == OR;
+                case BOTH:
+                    return token == AND;
+                case SUM:
+                    return token == PLUS || token == MINUS;
+                default:
+                    return token == TIMES || token == OVER;
             }
-            step();
-            return true;
         }
 
         private static boolean isComparison(int sign) {
@@ -979,12 +951,12 @@ public final class OxenHome {
 
         private static boolean isNameOf(int clause, int name) {
             if (clause == Texts.WORK) {
-                return name == HOUR || name >= MIGHT;
+                return name == NAME_HOUR || name >= NAME_STRENGTH;
             }
             if (clause == Texts.CALLS) {
-                return name <= FARM;
+                return name <= NAME_FARM;
             }
-            return name <= MIGHT;
+            return name <= NAME_STRENGTH;
         }
 
         private void step() {
@@ -998,7 +970,8 @@ public final class OxenHome {
             }
             int sign = tape.get(ahead);
             if (isLetter(sign)) {
-                takeWord();
+                passLetters();
+                token = wordAt(place, ahead);
             } else if (isFigure(sign)) {
                 takeNumber();
             } else {
@@ -1006,11 +979,10 @@ public final class OxenHome {
             }
         }
 
-        private void takeWord() {
+        private void passLetters() {
             for (int i = 0; i < length && ahead < length && isLetter(tape.get(ahead)); i++) {
                 ahead++;
             }
-            token = wordAt(place, ahead);
         }
 
         private int wordAt(int from, int to) {
@@ -1095,64 +1067,59 @@ public final class OxenHome {
             Herd herd = yard.herd;
             boolean own = herd.get(ox, HOME) == farm || herd.get(ox, SECOND) == farm;
             askCall(farm, pitch, hour);
-            names.put(Reader.KEEN, herd.get(ox, EAR));
-            names.put(Reader.OWN, own && farm != NONE ? 1 : 0);
-            names.put(Reader.FAR, farm == NONE ? 0 : yard.far(farm, field));
-            names.put(Reader.YOKED, yoked ? 1 : 0);
-            names.put(Reader.OX, ox);
-            names.put(Reader.MIGHT, herd.get(ox, STRENGTH));
+            names.put(Reader.NAME_EAR, herd.get(ox, EAR));
+            names.put(Reader.NAME_OWN, own && farm != NONE ? 1 : 0);
+            names.put(Reader.NAME_FAR, farm == NONE ? 0 : yard.far(farm, field));
+            names.put(Reader.NAME_YOKED, yoked ? 1 : 0);
+            names.put(Reader.NAME_OX, ox);
+            names.put(Reader.NAME_STRENGTH, herd.get(ox, STRENGTH));
         }
 
         private void askCall(int farm, int pitch, int hour) {
-            names.put(Reader.HOUR, hour);
-            names.put(Reader.PITCH, pitch);
-            names.put(Reader.FARM, farm);
+            names.put(Reader.NAME_HOUR, hour);
+            names.put(Reader.NAME_PITCH, pitch);
+            names.put(Reader.NAME_FARM, farm);
         }
 
         boolean heeded() {
-            if (!rules(Texts.HEEDS)) {
-                return names.get(Reader.OWN) != 0;
-            }
-            return value(Texts.HEEDS) != 0;
+            return value(Texts.HEEDS, names.get(Reader.NAME_OWN)) != 0;
         }
 
         boolean toSecond() {
-            if (yard.herd.get(asked, SECOND) == NONE || !rules(Texts.TO_SECOND)) {
-                return false;
-            }
-            return value(Texts.TO_SECOND) != 0;
+            return yard.herd.get(asked, SECOND) != NONE && value(Texts.TO_SECOND, 0) != 0;
         }
 
         int slip() {
-            return rules(Texts.SLIP) ? between(value(Texts.SLIP), 0, 9) : 0;
+            return between(value(Texts.SLIP, 0), 0, 9);
         }
 
         int weight(int farm, int pitch, int hour) {
             askCall(farm, pitch, hour);
-            return rules(Texts.CALLS) ? between(value(Texts.CALLS), 0, 9) : 1;
+            return between(value(Texts.CALLS, 1), 0, 9);
         }
 
         int work(int one, int other, int field, int hour) {
             int first = yard.herd.get(one, STRENGTH);
             int second = yard.herd.get(other, STRENGTH);
-            if (!rules(Texts.WORK)) {
-                return first + second;
+            names.put(Reader.NAME_HOUR, hour);
+            names.put(Reader.NAME_STRENGTH, first + second);
+            names.put(Reader.NAME_WEAKER, Math.min(first, second));
+            names.put(Reader.NAME_SOIL, yard.soil.get(field));
+            return between(value(Texts.WORK, first + second), 0, 99);
+        }
+
+        /** What THE TEXT's clause comes to, or what holds without it. */
+        private int value(int clause, int without) {
+            if (yard.ruling == NONE) {
+                return without;
             }
-            names.put(Reader.HOUR, hour);
-            names.put(Reader.MIGHT, first + second);
-            names.put(Reader.WEAKER, Math.min(first, second));
-            names.put(Reader.SOIL, yard.soil.get(field));
-            return between(value(Texts.WORK), 0, 99);
-        }
-
-        private boolean rules(int clause) {
-            return texts.has(yard.ruling, clause);
-        }
-
-        private int value(int clause) {
-            int end = texts.lastOf(yard.ruling, clause);
+            int from = texts.first.get(yard.ruling * Texts.CLAUSES + clause);
+            int to = texts.last.get(yard.ruling * Texts.CLAUSES + clause);
+            if (from >= to) {
+                return without;
+            }
             int top = NONE;
-            for (int i = texts.firstOf(yard.ruling, clause); i < end; i++) {
+            for (int i = from; i < to; i++) {
                 int code = texts.codes.get(i);
                 if (code < Texts.NAMES) {
                     top++;
@@ -1166,14 +1133,14 @@ public final class OxenHome {
                     stack.put(top, -stack.get(top));
                 } else {
                     top--;
-                    int left = stack.get(top);
-                    stack.put(top, joined(code - Texts.TOKENS, left, stack.get(top + 1)));
+                    long both = joined(code - Texts.TOKENS, stack.get(top), stack.get(top + 1));
+                    stack.put(top, between(both, -MOST, MOST));
                 }
             }
             return stack.get(top);
         }
 
-        private static int joined(int token, int left, int right) {
+        private static long joined(int token, long left, long right) {
             switch (token) {
                 case Reader.OR:
                     return left | right;
@@ -1192,18 +1159,18 @@ public final class OxenHome {
                 case Reader.UNLIKE:
                     return left != right ? 1 : 0;
                 case Reader.PLUS:
-                    return between(left + right, -MOST, MOST);
+                    return left + right;
                 case Reader.MINUS:
-                    return between(left - right, -MOST, MOST);
+                    return left - right;
                 case Reader.TIMES:
-                    return between((long) left * right, -MOST, MOST);
+                    return left * right;
                 default:
                     return right == 0 ? 0 : left / right;
             }
         }
 
         private static int between(long value, int least, int most) {
-            return (int) Math.max(least, Math.min(most, value));
+            return value < least ? least : value > most ? most : (int) value;
         }
     }
 
@@ -1302,15 +1269,15 @@ public final class OxenHome {
             int beyond = yard.herd.fields();
             hope.put(beyond, 0);
             for (int field = beyond - 1; field >= 0; field--) {
-                hope.put(field, hope.get(field + 1) + measurePairs(field, n));
+                stays.measure(field, n);
+                hope.put(field, hope.get(field + 1) + measurePairs(field));
             }
             most = NONE;
             choose(0, 0, 0);
         }
 
         /** The most that any two have DONE on the FIELD. */
-        private int measurePairs(int field, int n) {
-            stays.measure(field, n);
+        private int measurePairs(int field) {
             int top = 0;
             for (int one = 0; one < yard.herd.oxen(); one++) {
                 for (int other = one + 1; other < yard.herd.oxen(); other++) {
