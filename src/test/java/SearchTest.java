@@ -179,6 +179,7 @@ public final class SearchTest {
         CHECK.due("others", home.longest(0, 24), 23);
         CHECK.due("field -1", home.longest(-1, 5), -1);
         CHECK.due("field 1", home.longest(1, 5), -1);
+        CHECK.due("n 1", home.longest(0, 1), 1);
         CHECK.due("n 0", home.longest(0, 0), -1);
         CHECK.due("n 25", home.longest(0, 25), -1);
     }
@@ -221,8 +222,10 @@ public final class SearchTest {
         // Calls 0 0 0 0 0 0 1 2 3 4 of each farm; slip 9: 1 for what it should do.
         odds(home, 1, 1, 0, 1, 19);
         odds(home, 1, 0, 0, 9, 11);
-        Check.rule(home, "heeds own=1;slip 0-3;calls 100;");
+        Check.rule(home, "heeds own=1;slip 0-3;calls pitch*5-farm*6;");
         odds(home, 1, 1, 0, 1, 1);
+        // Calls of farm 0: 0 5 9 .. 9, of 1: 0 0 4 9 .. 9, of 2: 0 0 0 3 8 9 .. 9.
+        odds(home, 0, 0, 0, 77, 77 + 67 + 56);
         Check.rule(home, "calls hour-8;");
         CHECK.due("no weight", home.dark(0, 8, 0, 0, 0, 0), -1);
         CHECK.due("no weight below", home.dark(0, 8, 0, 0, 0, 1), -1);

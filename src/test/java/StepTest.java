@@ -70,6 +70,12 @@ public final class StepTest {
         home.loose(3);
         CHECK.due("both there", home.yoke(0, 3, 0), true);
         oxIs(home, 3, 10, 0);
+        home.drive(1, 1);
+        home.yoke(1, 4, 1);
+        home.loose(4);
+        CHECK.due("from field 1 to field 0", home.yoke(4, 2, 0), false);
+        CHECK.due("both there, on field 1", home.yoke(4, 1, 1), true);
+        oxIs(home, 4, 11, 1);
     }
 
     private static void loose() {
@@ -216,9 +222,15 @@ public final class StepTest {
             home.plough();
             CHECK.due("hour", home.about(3), hour + 1 == 24 ? 0 : hour + 1);
         }
-        home.loose(0);
-        home.drive(0, 0);
         CHECK.due("steps", home.about(7), 20);
+        home = farmyard();
+        home.yoke(0, 1, 0);
+        home.yoke(2, 3, 0);
+        home.loose(1);
+        CHECK.due("those who are loose plough nothing", home.plough(), 11);
+        home.loose(2);
+        CHECK.due("all are loose", home.plough(), 0);
+        CHECK.due("left", home.about(20), 19);
     }
 
     private static void ploughByLaw() {

@@ -98,6 +98,16 @@ public final class TextTest {
         bad("Work 1;", 1, 0);
         bad("works 1;", 1, 0);
         bad("wor k 1;", 1, 0);
+        bad("workz 1;", 1, 0);
+        bad("workA 1;", 1, 0);
+        bad("workZ 1;", 1, 0);
+        bad("work@1;", 1, 4);
+        bad("work[1;", 1, 4);
+        bad("work`1;", 1, 4);
+        bad("work{1;", 1, 4);
+        bad("work 1:", 1, 6);
+        bad("work 1,", 1, 6);
+        bad("work .1;", 1, 5);
         bad("work1;s", 1, 6);
         bad("work 1a;", 1, 6);
         bad("heeds 1=<2;", 1, 8);
@@ -275,6 +285,9 @@ public final class TextTest {
         heedsSo("1#2", true);
         heedsSo("not 1=2", true);
         heedsSo("not not 1=2", false);
+        heedsSo("not 1=1", false);
+        heedsSo("not not 1=1", true);
+        heedsSo("1<=2 and 2>=1 and 1#2 and 1<2 and 2>1 and 1=1 and not 1=2", true);
         heedsSo("1=1 or 1=2 and 1=2", true);
         heedsSo("1=2 and 1=2 or 1=1", true);
         heedsSo("1=2 and 1=1 or 1=2", false);
