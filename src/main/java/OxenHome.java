@@ -1244,14 +1244,15 @@ public final class OxenHome {
         }
     }
 
-    /** The PLAN: every way to set pairs on FIELDS, the lowest way first. */
+    /** The PLAN: what FIELDS from one on can yield yet, by the OXEN that those before them use. */
     private static final class Planner {
         private static final int PAIRS = 100;
+        private static final int SETS = 1 << MOST_OXEN;
 
         private final Yard yard;
         private final Stays stays;
         private final Row done;
-        private final Row hope;
+        private final Row yields;
         private final Row picked;
         private final Row best;
         private int most;
@@ -1260,61 +1261,71 @@ public final class OxenHome {
             yard = all;
             stays = hours;
             done = new Row(MOST_FIELDS * PAIRS);
-            hope = new Row(MOST_FIELDS + 1);
-            picked = new Row(MOST_FIELDS);
+            yields = new Row(MOST_FIELDS * SETS);
+            picked = new Row(MOST_FIELDS * SETS);
             best = new Row(MOST_FIELDS);
         }
 
         void search(int n) {
-            int beyond = yard.herd.fields();
-            hope.put(beyond, 0);
-            for (int field = beyond - 1; field >= 0; field--) {
+            for (int field = 0; field < yard.herd.fields(); field++) {
                 stays.measure(field, n);
-                hope.put(field, hope.get(field + 1) + measurePairs(field));
+                measurePairs(field);
+                for (int used = 0; used < SETS; used++) {
+                    yields.put(field * SETS + used, NONE);
+                }
             }
-            most = NONE;
-            choose(0, 0, 0);
+            most = yieldFrom(0, 0);
+            follow();
         }
 
-        /** The most that any two have DONE on the FIELD. */
-        private int measurePairs(int field) {
-            int top = 0;
+        private void measurePairs(int field) {
             for (int one = 0; one < yard.herd.oxen(); one++) {
                 for (int other = one + 1; other < yard.herd.oxen(); other++) {
                     int hours = stays.measured(one, other);
                     int furrows = stays.doneIn(one, other, field, hours);
                     done.put(field * PAIRS + one * 10 + other, furrows);
-                    top = Math.max(top, furrows);
                 }
             }
-            return top;
         }
 
-        /** The first of like plans is the lowest, so only a better one may take its place. */
-        private void choose(int field, int used, int sum) {
-            if (sum + hope.get(field) <= most) {
-                return;
-            }
+        /** The most that this FIELD and those behind it yield without the OXEN used. */
+        private int yieldFrom(int field, int used) {
             if (field >= yard.herd.fields() || field >= MOST_FIELDS) {
-                most = sum;
-                best.copyFrom(picked);
+                return 0;
+            }
+            int cell = field * SETS + used;
+            if (yields.get(cell) == NONE) {
+                yields.put(cell, yieldFrom(field + 1, used));
+                picked.put(cell, NONE);
+                for (int one = 0; one < yard.herd.oxen(); one++) {
+                    for (int other = one + 1; other < yard.herd.oxen(); other++) {
+                        tryPair(field, used, one, other);
+                    }
+                }
+            }
+            return yields.get(cell);
+        }
+
+        /** The first of like pairs is the lowest, so only a better one may take its place. */
+        private void tryPair(int field, int used, int one, int other) {
+            int both = 1 << one | 1 << other;
+            if ((used & both) != 0) {
                 return;
             }
-            picked.put(field, NONE);
-            choose(field + 1, used, sum);
-            for (int one = 0; one < yard.herd.oxen(); one++) {
-                for (int other = one + 1; other < yard.herd.oxen(); other++) {
-                    pick(field, used, sum, one, other);
-                }
+            int pair = one * 10 + other;
+            int sum = done.get(field * PAIRS + pair) + yieldFrom(field + 1, used | both);
+            if (sum > yields.get(field * SETS + used)) {
+                yields.put(field * SETS + used, sum);
+                picked.put(field * SETS + used, pair);
             }
         }
 
-        private void pick(int field, int used, int sum, int one, int other) {
-            int both = 1 << one | 1 << other;
-            if ((used & both) == 0) {
-                int pair = one * 10 + other;
-                picked.put(field, pair);
-                choose(field + 1, used | both, sum + done.get(field * PAIRS + pair));
+        private void follow() {
+            int used = 0;
+            for (int field = 0; field < yard.herd.fields(); field++) {
+                int pair = picked.get(field * SETS + used);
+                best.put(field, pair);
+                used |= pair == NONE ? 0 : 1 << pair / 10 | 1 << pair % 10;
             }
         }
     }
