@@ -1186,8 +1186,9 @@ public final class OxenHome {
             till = new Row(MOST_OXEN);
         }
 
+        /** HOUR itself is the first of the n, so a CALL of it that is heeded leaves none. */
         int hoursTill(int ox, int field, int n) {
-            for (int gone = 1; gone < n; gone++) {
+            for (int gone = 0; gone < n; gone++) {
                 if (heedsCallAt(ox, field, (yard.herd.hour() + gone) % HOURS)) {
                     return gone;
                 }
@@ -1231,7 +1232,7 @@ public final class OxenHome {
         int longestPair(int field, int n) {
             measure(field, n);
             int best = NONE;
-            int hours = 0;
+            int hours = NONE;
             for (int one = 0; one < yard.herd.oxen(); one++) {
                 for (int other = one + 1; other < yard.herd.oxen(); other++) {
                     if (measured(one, other) > hours) {

@@ -383,8 +383,7 @@ final class Model {
 
     int stayOf(int one, int other, int field, int n) {
         int hour = now.hour;
-        for (int gone = 1; gone <= n; gone++) {
-            hour = hour == 23 ? 0 : hour + 1;
+        for (int gone = 0; gone < n; gone++) {
             for (int[] call : now.calls) {
                 int pitch = now.farms.get(call[1])[2];
                 if (call[0] == hour && (wouldHeed(one, call[1], pitch, field, true, hour)
@@ -392,6 +391,7 @@ final class Model {
                     return gone;
                 }
             }
+            hour = hour == 23 ? 0 : hour + 1;
         }
         return n;
     }

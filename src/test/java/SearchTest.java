@@ -4,11 +4,14 @@ public final class SearchTest {
 
     public static void main(String[] args) {
         stay();
+        stayOfACallOfTheHour();
         stayByLaw();
         done();
         plan();
+        planOfACallOfTheHour();
         planOfLike();
         longest();
+        longestOfACallOfTheHour();
         dark();
         darkByLaw();
         darkGreat();
@@ -38,8 +41,6 @@ public final class SearchTest {
     private static void stay() {
         OxenHome home = farmyard();
         CHECK.due("without calls", home.stay(0, 1, 0, 24, false), 24);
-        home.call(6, 0);
-        CHECK.due("a call of this hour", home.stay(0, 1, 0, 24, false), 24);
         home.call(5, 1);
         home.call(9, 2);
         home.call(8, 2);
@@ -58,6 +59,33 @@ public final class SearchTest {
         home.yoke(0, 1, 1);
         CHECK.due("wherever they are", home.stay(1, 0, 0, 24, false), 18);
         stayOfOthers(home);
+    }
+
+    /** HOUR itself is the first of the n HOURS. */
+    private static void stayOfACallOfTheHour() {
+        OxenHome home = farmyard();
+        home.call(6, 0);
+        CHECK.due("a call of this hour", home.stay(0, 1, 0, 24, false), 0);
+        CHECK.due("of 1", home.stay(0, 1, 0, 1, false), 0);
+        CHECK.due("the other heeds it", home.stay(1, 0, 0, 1, false), 0);
+        CHECK.due("nothing is done", home.stay(0, 1, 0, 24, true), 0);
+        CHECK.due("of 1, nothing is done", home.stay(0, 1, 0, 1, true), 0);
+        CHECK.due("those that it does not call", home.stay(1, 4, 0, 24, false), 24);
+        CHECK.due("what they do", home.stay(1, 4, 0, 1, true), 11);
+        home.call(9, 1);
+        CHECK.due("a later call", home.stay(1, 4, 0, 24, false), 3);
+        CHECK.due("a call of this hour first", home.stay(0, 1, 0, 24, false), 0);
+        home.plough();
+        CHECK.due("an hour on", home.stay(1, 4, 0, 24, false), 2);
+        CHECK.due("the call is a day off, all but an hour", home.stay(0, 3, 0, 24, false), 23);
+        CHECK.due("it is not of the 23 hours", home.stay(0, 3, 0, 23, false), 23);
+        home.undo();
+        CHECK.due("the hour is back", home.stay(0, 3, 0, 24, false), 0);
+        Check.rule(home, "heeds hour=7;");
+        CHECK.due("by law none heeds it", home.stay(0, 3, 0, 24, false), 24);
+        Check.rule(home, "heeds hour=6 and yoked=1 and ox=3;");
+        CHECK.due("by law one heeds it", home.stay(0, 3, 0, 24, false), 0);
+        CHECK.due("by law the other two do not", home.stay(0, 1, 0, 24, false), 24);
     }
 
     private static void stayOfOthers(OxenHome home) {
@@ -126,6 +154,19 @@ public final class SearchTest {
         CHECK.due("but for one hour, field 1", home.plan(3, 1), 23);
     }
 
+    private static void planOfACallOfTheHour() {
+        OxenHome home = farmyard();
+        home.call(6, 1);
+        CHECK.due("those that stay", home.plan(1, -1), 11);
+        CHECK.due("those that stay, field 0", home.plan(1, 0), -1);
+        CHECK.due("those that stay, field 1", home.plan(1, 1), 23);
+        home.call(6, 0);
+        CHECK.due("all are called", home.plan(1, -1), 0);
+        CHECK.due("none on field 0", home.plan(1, 0), -1);
+        CHECK.due("none on field 1", home.plan(1, 1), -1);
+        CHECK.due("none in 24", home.plan(24, 1), -1);
+    }
+
     private static void planOfLike() {
         OxenHome home = new OxenHome();
         home.farm(0, 0, 0);
@@ -182,6 +223,18 @@ public final class SearchTest {
         CHECK.due("n 1", home.longest(0, 1), 1);
         CHECK.due("n 0", home.longest(0, 0), -1);
         CHECK.due("n 25", home.longest(0, 25), -1);
+    }
+
+    /** Where the greatest STAY is 0, the lowest two are still the answer. */
+    private static void longestOfACallOfTheHour() {
+        OxenHome home = farmyard();
+        home.call(6, 1);
+        CHECK.due("the lowest that stay", home.longest(0, 24), 2);
+        home.call(6, 0);
+        CHECK.due("none stays", home.longest(0, 24), 1);
+        CHECK.due("none stays, of 1", home.longest(1, 1), 1);
+        Check.rule(home, "heeds ox<3;");
+        CHECK.due("the two that stay", home.longest(0, 1), 34);
     }
 
     private static void odds(OxenHome home, int set, int went, int farm, long upper, long lower) {
