@@ -1,9 +1,13 @@
 import java.nio.charset.StandardCharsets;
+import java.util.ArrayList;
+import java.util.List;
 
 /** What the tests share: counting wrong answers, and telling texts byte by byte. */
 final class Check {
     private final String name;
+    private final List<String> quotes = new ArrayList<>();
     private int asked;
+    private int askedAheadOfQuote;
     private int wrong;
 
     Check(String name) {
@@ -14,12 +18,34 @@ final class Check {
         asked++;
         if (got != want) {
             wrong++;
-            System.out.println(name + ": " + what + " answered " + got + ", due is " + want);
+            String sentence = quotes.isEmpty() ? "" : " (" + quotes.get(quotes.size() - 1) + ")";
+            System.out.println(name + ": " + what + " answered " + got + ", due is " + want + sentence);
         }
     }
 
     void due(String what, boolean got, boolean want) {
         due(what, got ? 1 : 0, want ? 1 : 0);
+    }
+
+    /** Names the words of the document that the next answers are about. */
+    void quote(String words) {
+        endQuote();
+        quotes.add(words);
+        askedAheadOfQuote = asked;
+    }
+
+    private void endQuote() {
+        if (!quotes.isEmpty() && asked == askedAheadOfQuote) {
+            due("tests of: " + quotes.get(quotes.size() - 1), 0, 1);
+        }
+    }
+
+    /** The words quoted since the last time, in their order. */
+    List<String> takeQuotes() {
+        endQuote();
+        List<String> taken = new ArrayList<>(quotes);
+        quotes.clear();
+        return taken;
     }
 
     /** Ends the test: exit code 1 if an answer was wrong. */
