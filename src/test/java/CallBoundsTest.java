@@ -740,6 +740,8 @@ public final class CallBoundsTest {
         imageFull();
         imageOfTexts();
         imageOfSteps();
+        imageOfCalls();
+        imageOfFewer();
     }
 
     private static void imageFull() {
@@ -794,6 +796,67 @@ public final class CallBoundsTest {
         home.by(-1);
         home.back();
         CHECK.due("it rules again", home.plough(), 3);
+    }
+
+    private static void imageOfCalls() {
+        OxenHome home = six();
+        home.call(9, 0);
+        home.call(12, 1);
+        home.image();
+        home.hush();
+        home.call(7, 2);
+        home.call(8, 0);
+        home.call(8, 1);
+        stayIs(home, 1, 2, 24, 1);
+        home.back();
+        CHECK.due("calls", home.about(6), 2);
+        stayIs(home, 0, 1, 24, 3);
+        stayIs(home, 1, 2, 24, 6);
+        stayIs(home, 2, 5, 24, 24);
+        home.hush();
+        home.image();
+        home.call(8, 0);
+        home.back();
+        CHECK.due("no calls", home.about(6), 0);
+        stayIs(home, 0, 1, 24, 24);
+    }
+
+    /** What was told and asked since leaves nothing behind. */
+    private static void imageOfFewer() {
+        OxenHome home = strong(1, 2);
+        home.field(0, 0, 0, 5);
+        home.image();
+        for (int field = 1; field < 4; field++) {
+            home.field(field, 0, field, 50);
+        }
+        for (int farm = 1; farm < 5; farm++) {
+            home.farm(farm, 0, 0);
+        }
+        for (int ox = 2; ox < 8; ox++) {
+            home.ox(4, -1, 9, 0);
+        }
+        planIs(home, 1, 57, 1, 23, 45, 67);
+        CHECK.due("apart", home.apart(1, 0, -1), 10);
+        CHECK.due("longest", home.longest(3, 24), 1);
+        home.back();
+        planIs(home, 1, 3, 1, -2, -2, -2);
+        CHECK.due("apart", home.apart(1, 0, -1), 0);
+        CHECK.due("longest", home.longest(0, 24), 1);
+        CHECK.due("longest on none", home.longest(1, 24), -1);
+        CHECK.due("dark", home.dark(0, 0, 3, 3, 0, 1), 1);
+        CHECK.due("dark of none", home.dark(0, 0, 4, 4, 0, 1), -1);
+        CHECK.due("another farm", home.farm(3, 0, 5), 1);
+        CHECK.due("its pitch", home.about(11), 5);
+        CHECK.due("another field", home.field(9, 0, 9, 9), 1);
+        CHECK.due("another ox", home.ox(1, 0, 8, 7), 2);
+        int[] due = {1, 0, 8, 7, 1, 0, 1, -1};
+        for (int what = 0; what < 8; what++) {
+            CHECK.due("of the other ox " + what, home.of(2, what), due[what]);
+        }
+        planIs(home, 1, 9, -1, 2);
+        home.back();
+        CHECK.due("no farm more", home.about(0), 1);
+        CHECK.due("no ox more", home.of(2, 0), -2);
     }
 
     private static void imageOfSteps() {

@@ -83,6 +83,34 @@ public final class LawBoundsTest {
         bad("work 1" + "+1".repeat(147), 1, 300);
         fine("heeds " + "not 1=1 or ".repeat(26) + "1=1;");
         fine("work 1;" + " ".repeat(286) + "slip 1;");
+        fourLongTexts();
+    }
+
+    /** Two full clauses each, of which every one comes to its own number. */
+    private static void fourLongTexts() {
+        OxenHome home = corners();
+        home.yoke(0, 1, 0);
+        for (int text = 0; text < 4; text++) {
+            String first = "calls " + "1+".repeat(60) + "0-60;heeds pitch";
+            String then = "+1".repeat(60) + ">60+" + text + ";work " + text + ";";
+            CHECK.due("long text", Check.tell(home, first + then), text);
+        }
+        for (int text = 0; text < 4; text++) {
+            home.by(text);
+            CHECK.due("work by " + text, home.plough(), text);
+            CHECK.due("pitch " + text, home.heeds(0, 0, text, 0, false), false);
+            CHECK.due("pitch above " + text, home.heeds(0, 0, text + 1, 0, false), true);
+            CHECK.due("none calls", home.dark(0, 0, 0, 0, 0, 0), -1);
+        }
+        for (int text = 0; text < 4; text++) {
+            home = corners();
+            home.yoke(0, 1, 0);
+            for (int told = 0; told < 4; told++) {
+                Check.tell(home, "work " + (told == text ? "1+".repeat(143) + "7-136;" : "1+".repeat(146) + "1;"));
+            }
+            home.by(text);
+            CHECK.due("all of the text " + text, home.plough(), 14);
+        }
     }
 
     private static void tokens() {
@@ -239,6 +267,7 @@ public final class LawBoundsTest {
             so("not " + a + " or " + b + " and not " + c, !p || q && !r);
             so("not not " + a + " and not " + b + " or not not not " + c, p && !q || !r);
         }
+        comparisonsJoined();
         bad("heeds (1=1) or 1=1;", 1, 8);
         bad("heeds 1=1 or or 1=1;", 1, 13);
         bad("heeds 1=1 and or 1=1;", 1, 14);
@@ -254,6 +283,26 @@ public final class LawBoundsTest {
         bad("heeds 1 and 1=1;", 1, 8);
         bad("heeds =1;", 1, 6);
         bad("heeds 1=;", 1, 8);
+    }
+
+    private static void comparisonsJoined() {
+        String[] hold = {"1<2", "1<=2", "2<=2", "2>1", "2>=1", "2>=2", "2=2", "1#2", "2#1"};
+        String[] fail = {"2<1", "2<2", "2<=1", "1>2", "2>2", "1>=2", "1=2", "2=1", "2#2"};
+        for (int i = 0; i < hold.length; i++) {
+            so(hold[i], true);
+            so(fail[i], false);
+            so("not " + hold[i], false);
+            so("not " + fail[i], true);
+            so("not not " + hold[i], true);
+            for (int j = 0; j < hold.length; j++) {
+                so(hold[i] + " and " + hold[j], true);
+                so(hold[i] + " and " + fail[j], false);
+                so(fail[i] + " or " + hold[j], true);
+                so(fail[i] + " or " + fail[j], false);
+                so("not " + fail[i] + " and not " + fail[j], true);
+                so("not " + hold[i] + " or not " + hold[j], false);
+            }
+        }
     }
 
     private static void sums() {
@@ -536,11 +585,26 @@ public final class LawBoundsTest {
         bad("work 1" + " ".repeat(294), 1, 300);
         bad(" ".repeat(299) + "1", 1, 299);
         bad(" ".repeat(296) + "work", 1, 300);
+        cut("work 1; work 2;", 4, 4);
+        cut("work 1;", 3, 0);
+        cut("work 12;", 6, 6);
+        cut("work 10000;", 9, 9);
+        cut("heeds 1<=2;", 8, 8);
+        cut("heeds 1>=2;", 8, 8);
+        cut("work 1  ;", 7, 7);
+        cut("work hour;", 7, 5);
+        cut("work hour;", 8, 5);
+        cut("work hour;", 9, 9);
+    }
+
+    /** What stood on the tape behind its end is no part of it. */
+    private static void cut(String text, int bytes, int place) {
         OxenHome home = new OxenHome();
-        Check.fill(home, "work 1; work 2;");
-        home.end(4);
-        home.text();
-        CHECK.due("the end is where the tape ends", home.fault(1), 4);
+        Check.fill(home, text);
+        home.end(bytes);
+        CHECK.due(bytes + " of " + text, home.text(), -1);
+        CHECK.due("fault of " + bytes + " of " + text, home.fault(0), 1);
+        CHECK.due("place of " + bytes + " of " + text, home.fault(1), place);
     }
 
     private static void faultLeast() {
