@@ -813,12 +813,44 @@ public final class CallBoundsTest {
         stayIs(home, 0, 1, 24, 3);
         stayIs(home, 1, 2, 24, 6);
         stayIs(home, 2, 5, 24, 24);
+        imageOfPlaces();
         home.hush();
         home.image();
         home.call(8, 0);
         home.back();
         CHECK.due("no calls", home.about(6), 0);
         stayIs(home, 0, 1, 24, 24);
+    }
+
+    private static void imageOfPlaces() {
+        OxenHome home = new OxenHome();
+        int[][] places = {{1, 2, 3, 5}, {7, 11, 6, 17}, {19, 0, 4, 8}};
+        for (int[] place : places) {
+            home.farm(place[0], place[1], place[2]);
+            home.field(place[2], place[3], place[0] % 10, 50 + place[0]);
+            home.ox(0, -1, 1, 1);
+            home.image();
+        }
+        home.back();
+        Check.rule(home, "heeds far=pitch*10+ox or far=pitch*10+3+ox;work soil*7;");
+        home.image();
+        for (int[] place : places) {
+            home.farm(place[3], place[2], place[1] % 10);
+            home.field(place[1], place[0], place[3] % 10, 7);
+        }
+        home.back();
+        for (int farm = 0; farm < 3; farm++) {
+            CHECK.due("pitch", home.about(10 + farm), places[farm][2]);
+            CHECK.due("furrows", home.about(20 + farm), 50 + places[farm][0]);
+            CHECK.due("soil", home.stay(0, 1, farm, 1, true), places[farm][0] % 10 * 7);
+            for (int field = 0; field < 3; field++) {
+                int far = Math.abs(places[farm][0] - places[field][2]) + Math.abs(places[farm][1] - places[field][3]);
+                for (int ox = 0; ox < 3; ox++) {
+                    boolean due = far % 10 == ox || far % 10 == ox + 3;
+                    CHECK.due("far " + far, home.heeds(ox, farm, far / 10, field, false), due);
+                }
+            }
+        }
     }
 
     /** What was told and asked since leaves nothing behind. */

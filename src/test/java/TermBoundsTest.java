@@ -282,6 +282,20 @@ public final class TermBoundsTest {
         CHECK.due("the one left ploughs nothing", home.plough(), 0);
         CHECK.due("the one left is no yoke to loose", home.loose(2), false);
         CHECK.due("the one left is driven", home.drive(2, 1), true);
+        home = Yards.crowded();
+        home.by(-1);
+        home.loose(5);
+        home.loose(2);
+        home.image();
+        for (int farm = 0; farm < 5; farm++) {
+            home.whistle(farm);
+        }
+        CHECK.due("at its home", home.of(5, 6), 4);
+        CHECK.due("at its home", home.of(6, 6), 3);
+        int[] furrows = {30, 38, 10, 4};
+        for (int field = 0; field < 4; field++) {
+            CHECK.due("furrows that a whistle leaves", home.about(20 + field), furrows[field]);
+        }
     }
 
     private static void own() {
@@ -359,6 +373,16 @@ public final class TermBoundsTest {
         workIs("work soil;", 9);
         workIs("work hour;", 6);
         OxenHome home = Yards.farmyard();
+        Check.rule(home, "work soil;");
+        home.yoke(0, 1, 1);
+        CHECK.due("soil of field 1", home.plough(), 7);
+        home.undo();
+        home.undo();
+        home.yoke(2, 3, 0);
+        CHECK.due("soil of field 0", home.plough(), 3);
+        home.yoke(0, 4, 1);
+        CHECK.due("soil of both", home.plough(), 10);
+        home = Yards.farmyard();
         home.field(0, 0, 0, 99);
         home.field(0, 0, 0, 99);
         Check.rule(home, "work 0-50;");
