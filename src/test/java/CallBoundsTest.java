@@ -35,8 +35,7 @@ public final class CallBoundsTest {
         thunderHome();
         thunderTried();
         image();
-        Document.covered(CHECK, "part III", document.part("CALLS (8 at most)", "The constants:"),
-            CHECK.takeQuotes());
+        document.covered(CHECK, "CALLS (8 at most)", "The constants:");
         CHECK.close();
     }
 

@@ -30,7 +30,7 @@ public final class LawBoundsTest {
         clauseAgain();
         foreignName();
         theText();
-        Document.covered(CHECK, "part II", document.part("TEXTS 0 .. 3: of up", "==== III."), CHECK.takeQuotes());
+        document.covered(CHECK, "TEXTS 0 .. 3: of up", "==== III.");
         CHECK.close();
     }
 

@@ -14,22 +14,18 @@ public final class SearchBoundsTest {
     public static void main(String[] args) throws IOException {
         Document document = new Document();
         promise22();
-        cover(document, 22);
+        document.covered(CHECK, 22);
         promise23();
-        cover(document, 23);
+        document.covered(CHECK, 23);
         promise24();
-        cover(document, 24);
+        document.covered(CHECK, 24);
         promise25();
-        cover(document, 25);
+        document.covered(CHECK, 25);
         promise26();
-        cover(document, 26);
+        document.covered(CHECK, 26);
         promise27();
-        cover(document, 27);
+        document.covered(CHECK, 27);
         CHECK.close();
-    }
-
-    private static void cover(Document document, int promise) {
-        Document.covered(CHECK, "promise " + promise, document.promise(promise), CHECK.takeQuotes());
     }
 
     private static void still(String what, ToLongFunction<OxenHome> call, long due) {

@@ -13,30 +13,26 @@ public final class StepBoundsTest {
     public static void main(String[] args) throws IOException {
         Document document = new Document();
         promise10();
-        cover(document, 10);
+        document.covered(CHECK, 10);
         promise11();
-        cover(document, 11);
+        document.covered(CHECK, 11);
         promise12();
-        cover(document, 12);
+        document.covered(CHECK, 12);
         promise13();
-        cover(document, 13);
+        document.covered(CHECK, 13);
         promise14();
-        cover(document, 14);
+        document.covered(CHECK, 14);
         promise15();
-        cover(document, 15);
+        document.covered(CHECK, 15);
         promise16();
-        cover(document, 16);
+        document.covered(CHECK, 16);
         promise17();
-        cover(document, 17);
+        document.covered(CHECK, 17);
         promise28();
-        cover(document, 28);
+        document.covered(CHECK, 28);
         promise29();
-        cover(document, 29);
+        document.covered(CHECK, 29);
         CHECK.close();
-    }
-
-    private static void cover(Document document, int promise) {
-        Document.covered(CHECK, "promise " + promise, document.promise(promise), CHECK.takeQuotes());
     }
 
     private static void refused(String what, ToLongFunction<OxenHome> call, long due) {

@@ -7,8 +7,7 @@ public final class TermBoundsTest {
     public static void main(String[] args) throws IOException {
         Document document = new Document();
         calls();
-        Document.covered(CHECK, "the face", document.part("An object is used", "## The public face"),
-            CHECK.takeQuotes());
+        document.covered(CHECK, "An object is used", "## The public face");
         farms();
         fields();
         oxen();
@@ -33,7 +32,7 @@ public final class TermBoundsTest {
         steps();
         twentySteps();
         asAheadOfIt();
-        Document.covered(CHECK, "terms", document.part("FARMS 0 .. 4", "==== II."), CHECK.takeQuotes());
+        document.covered(CHECK, "FARMS 0 .. 4", "==== II.");
         CHECK.close();
     }
 

@@ -10,39 +10,35 @@ public final class ToldBoundsTest {
     public static void main(String[] args) throws IOException {
         Document document = new Document();
         promise1();
-        cover(document, 1);
+        document.covered(CHECK, 1);
         promise2();
-        cover(document, 2);
+        document.covered(CHECK, 2);
         promise3();
-        cover(document, 3);
+        document.covered(CHECK, 3);
         promise4();
-        cover(document, 4);
+        document.covered(CHECK, 4);
         promise5();
-        cover(document, 5);
+        document.covered(CHECK, 5);
         promise6();
-        cover(document, 6);
+        document.covered(CHECK, 6);
         promise7();
-        cover(document, 7);
+        document.covered(CHECK, 7);
         promise8();
-        cover(document, 8);
+        document.covered(CHECK, 8);
         promise9();
-        cover(document, 9);
+        document.covered(CHECK, 9);
         promise18();
-        cover(document, 18);
+        document.covered(CHECK, 18);
         promise19();
-        cover(document, 19);
+        document.covered(CHECK, 19);
         promise20();
-        cover(document, 20);
+        document.covered(CHECK, 20);
         promise21();
-        cover(document, 21);
+        document.covered(CHECK, 21);
         promise30();
-        cover(document, 30);
+        document.covered(CHECK, 30);
         constant();
         CHECK.close();
-    }
-
-    private static void cover(Document document, int promise) {
-        Document.covered(CHECK, "promise " + promise, document.promise(promise), CHECK.takeQuotes());
     }
 
     private static void refused(String what, ToLongFunction<OxenHome> call, long due) {
@@ -213,16 +209,15 @@ public final class ToldBoundsTest {
 
     private static void promise5() {
         CHECK.quote("Twenty bytes come behind the tape, the highest of a first: how many it has.");
-        OxenHome home = new OxenHome();
         for (int sign : new int[] {0, 9, 11, 31, 33, 127, 128, 255}) {
+            OxenHome home = new OxenHome();
             for (int at = 0; at < 20; at++) {
                 CHECK.due("behind none", feedSign(home, at, sign), 20);
                 CHECK.due("it is none that can stand there", home.text(), -1);
                 CHECK.due("its place", home.fault(1), at);
-                home.back();
             }
         }
-        home = new OxenHome();
+        OxenHome home = new OxenHome();
         for (int i = 1; i <= 15; i++) {
             CHECK.due("feed " + i, home.feed(0x20202020, 0x20202020, 0x20202020, 0x20202020, 0x20202020), 20 * i);
             CHECK.due("bytes " + i, home.about(8), 20 * i);
