@@ -286,8 +286,10 @@ public final class TermBoundsTest {
         home.loose(5);
         home.loose(2);
         home.image();
+        // 2, 4, 5 and 6 are at fields: 2 is of farms 2 and 0, 4 of 1, 5 and 6 of 4 and 3.
+        int[] going = {4, 16, 0, 96, 0};
         for (int farm = 0; farm < 5; farm++) {
-            home.whistle(farm);
+            CHECK.due("whistle of " + farm, home.whistle(farm), going[farm]);
         }
         CHECK.due("at its home", home.of(5, 6), 4);
         CHECK.due("at its home", home.of(6, 6), 3);
@@ -533,6 +535,18 @@ public final class TermBoundsTest {
             CHECK.due("nights of " + ox, home.of(ox, 5), last[ox]);
         }
         CHECK.due("hour", home.about(3), 6);
+        home = Yards.farmyard();
+        home.back();
+        home.farm(0, 0, 0);
+        for (int field = 0; field < 4; field++) {
+            home.field(0, 0, 0, 11);
+        }
+        home.ox(0, -1, 1, 1);
+        for (int i = 0; i < 4; i++) {
+            CHECK.due("a night that none sleeps elsewhere", home.night(), 0);
+            CHECK.due("a whistle that none hears", home.whistle(0), 0);
+            CHECK.due("furrows", home.about(20 + i), 11);
+        }
     }
 
     private static void nightsOfThree() {
